@@ -31,9 +31,7 @@ public final class GateCounter {
     private static final int LAST_NUMBER = 7;
     private static final int[] PRESCALES = {1, 2, 4, 8, 16};
 
-    private final byte[] input;
-    private int inputLength;
-    private final SetupReader reader;
+    private final SetupText input;
     private final StringBuilder output;
     private int latestReason;
     private int latestCause;
@@ -50,8 +48,7 @@ public final class GateCounter {
     private int undoable;
 
     public GateCounter() {
-        input = new byte[INPUT_SIZE];
-        reader = new SetupReader(input);
+        input = new SetupText();
         output = new StringBuilder();
         now = new State();
         trial = new State();
@@ -66,53 +63,43 @@ public final class GateCounter {
     // The input and its errors.
 
     public int appendInput(int a, int b, int c, int d, int e) {
-        if (inputLength + INPUT_STEP > INPUT_SIZE) {
+        if (input.length + INPUT_STEP > INPUT_SIZE) {
             return -1;
         }
-        putFourBytes(a);
-        putFourBytes(b);
-        putFourBytes(c);
-        putFourBytes(d);
-        putFourBytes(e);
-        return inputLength;
-    }
-
-    private void putFourBytes(int bytes) {
-        for (int shift = 24; shift >= 0; shift -= 8) {
-            if (inputLength < INPUT_SIZE) {
-                input[inputLength] = (byte) (bytes >> shift);
-                inputLength++;
-            }
-        }
+        input.append(a);
+        input.append(b);
+        input.append(c);
+        input.append(d);
+        input.append(e);
+        return input.length;
     }
 
     public boolean truncateInput(int length) {
-        if (length < 0 || length > inputLength) {
+        if (length < 0 || length > input.length) {
             return false;
         }
-        inputLength = length;
+        input.length = length;
         return true;
     }
 
     public int loadCounter() {
-        trial.clear();
-        boolean loaded = reader.readInto(trial, inputLength);
-        inputLength = 0;
+        boolean loaded = input.read();
+        input.length = 0;
         if (!loaded) {
             return NONE;
         }
-        now.copyFrom(trial);
+        now.copyFrom(input.draft);
         undoable = 0;
         isSaved = false;
         return now.signal.segments;
     }
 
     public int errorCode() {
-        return reader.error;
+        return input.error;
     }
 
     public int errorOffset() {
-        return reader.errorOffset;
+        return input.errorOffset;
     }
 
     // How things are.
@@ -209,7 +196,7 @@ public final class GateCounter {
     }
 
     public boolean addsUp() {
-        return now.signal.addsUp();
+        return now.signal.isSumRight();
     }
 
     // Forecasts of what comes.
@@ -928,7 +915,7 @@ public final class GateCounter {
             outputsWhenSet = outputs;
         }
 
-        boolean addsUp() {
+        boolean isSumRight() {
             return edges - edgesWhenSet == prescale * (outputs - outputsWhenSet) + prescaled;
         }
 
@@ -1242,8 +1229,8 @@ public final class GateCounter {
         }
     }
 
-    /** Reads a setup text from left to right, up to its first error. */
-    private static final class SetupReader {
+    /** The input buffer, and how its text is read: from left to right, up to the first error. */
+    private static final class SetupText {
         private static final int END_OF_TEXT = 0;
         private static final int WORD = 1;
         private static final int NUMBER = 2;
@@ -1257,7 +1244,8 @@ public final class GateCounter {
         int length;
         int error;
         int errorOffset;
-        State target;
+        /** What the text tells so far, apart from the counter, which an error must not change. */
+        final State draft;
         boolean prescaleTold;
         boolean gateTold;
         boolean periodsTold;
@@ -1269,14 +1257,21 @@ public final class GateCounter {
         /** The number that was taken last. */
         int taken;
 
-        SetupReader(byte[] text) {
-            this.text = text;
+        SetupText() {
+            text = new byte[INPUT_SIZE];
+            draft = new State();
             errorOffset = NONE;
         }
 
-        boolean readInto(State newTarget, int newLength) {
-            target = newTarget;
-            length = Math.min(newLength, text.length);
+        void append(int fourBytes) {
+            for (int shift = 24; shift >= 0 && length < text.length; shift -= 8) {
+                text[length] = (byte) (fourBytes >> shift);
+                length++;
+            }
+        }
+
+        boolean read() {
+            draft.clear();
             error = NO_ERROR;
             errorOffset = NONE;
             prescaleTold = false;
@@ -1284,7 +1279,12 @@ public final class GateCounter {
             periodsTold = false;
             end = 0;
             advance();
-            return isWord("clock") ? readClock() && readOthers() : fail(SYNTAX);
+            boolean fits = isWord("clock") ? readClock() : fail(SYNTAX);
+            // Each statement takes a byte at least, so there are fewer of them than bytes.
+            for (int i = 0; i < length && fits && kind != END_OF_TEXT; i++) {
+                fits = readStatement();
+            }
+            return fits;
         }
 
         private boolean readClock() {
@@ -1307,18 +1307,8 @@ public final class GateCounter {
                 }
                 age = taken;
             }
-            target.clock.start(step, drift, age);
+            draft.clock.start(step, drift, age);
             return takeSemicolon();
-        }
-
-        /** Each statement takes a byte at least, so their number is bounded by the length. */
-        private boolean readOthers() {
-            for (int i = 0; i < length && kind != END_OF_TEXT; i++) {
-                if (!readStatement()) {
-                    return false;
-                }
-            }
-            return true;
         }
 
         private boolean readStatement() {
@@ -1349,7 +1339,7 @@ public final class GateCounter {
             if (!takeNumber(1, 16)) {
                 return false;
             }
-            target.signal.setUpPrescaler(taken);
+            draft.signal.setUpPrescaler(taken);
             return true;
         }
 
@@ -1362,7 +1352,7 @@ public final class GateCounter {
             if (!takeNumber(1, MOST_GATE)) {
                 return false;
             }
-            target.gateLength = taken;
+            draft.gateLength = taken;
             return true;
         }
 
@@ -1375,16 +1365,16 @@ public final class GateCounter {
             if (!takeNumber(1, MOST_PERIODS)) {
                 return false;
             }
-            target.periodNumber = taken;
+            draft.periodNumber = taken;
             return true;
         }
 
         private boolean readSignal() {
-            if (target.signal.segments >= MOST_SEGMENTS) {
+            if (draft.signal.segments >= MOST_SEGMENTS) {
                 return fail(TOO_MANY);
             }
             advance();
-            if (kind == NUMBER && number <= target.signal.lastTime()) {
+            if (kind == NUMBER && number <= draft.signal.lastTime()) {
                 return fail(ORDER);
             }
             if (!takeNumber(0, 999999)) {
@@ -1394,7 +1384,7 @@ public final class GateCounter {
             if (!takeNumber(0, MOST_PERIOD)) {
                 return false;
             }
-            target.signal.append(time, taken);
+            draft.signal.append(time, taken);
             return true;
         }
 
@@ -1438,38 +1428,31 @@ public final class GateCounter {
             return false;
         }
 
+        /** Goes on to the next token; whether it can stand at its place is looked at when it is taken. */
         private void advance() {
             start = end;
             for (int i = end; i < length && isSpace(byteAt(i)); i++) {
                 start = i + 1;
             }
-            end = start + 1;
-            int first = byteAt(start);
-            if (first == NONE) {
-                kind = END_OF_TEXT;
-                end = start;
-            } else if (isLetter(first)) {
-                kind = WORD;
-                passLetters();
-            } else if (isDigit(first)) {
-                passDigits();
-                kind = end - start > LONGEST_NUMBER ? WRONG : NUMBER;
-            } else {
-                kind = first == ';' ? SEMICOLON : first == '-' ? MINUS : WRONG;
-            }
-        }
-
-        private void passLetters() {
-            for (int i = start; i < length && isLetter(byteAt(i)); i++) {
+            kind = kindOf(byteAt(start));
+            end = kind == END_OF_TEXT ? start : start + 1;
+            boolean goesOn = kind == WORD || kind == NUMBER;
+            for (int i = end; i < length && goesOn && kindOf(byteAt(i)) == kind; i++) {
                 end = i + 1;
             }
+            if (kind == NUMBER) {
+                readDigits();
+            }
         }
 
-        private void passDigits() {
+        private void readDigits() {
+            if (end - start > LONGEST_NUMBER) {
+                kind = WRONG;
+                return;
+            }
             number = 0;
-            for (int i = start; i < length && isDigit(byteAt(i)); i++) {
+            for (int i = start; i < end; i++) {
                 number = number * 10 + byteAt(i) - '0';
-                end = i + 1;
             }
         }
 
@@ -1493,12 +1476,17 @@ public final class GateCounter {
             return sign == ' ' || sign == '\n';
         }
 
-        private static boolean isLetter(int sign) {
-            return sign >= 'a' && sign <= 'z';
-        }
-
-        private static boolean isDigit(int sign) {
-            return sign >= '0' && sign <= '9';
+        private static int kindOf(int sign) {
+            if (sign == NONE) {
+                return END_OF_TEXT;
+            }
+            if (sign >= 'a' && sign <= 'z') {
+                return WORD;
+            }
+            if (sign >= '0' && sign <= '9') {
+                return NUMBER;
+            }
+            return sign == ';' ? SEMICOLON : sign == '-' ? MINUS : WRONG;
         }
     }
 }

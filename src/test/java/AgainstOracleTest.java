@@ -163,7 +163,8 @@ public final class AgainstOracleTest {
             return random.nextInt();
         }
         int[] edges = {least, most};
-        return kind < 5 ? edges[below(2)] : kind < 13 ? least + below(Math.min(most - least + 1, 60)) : least + below(most - least + 1);
+        int width = Math.max(1, most - least + 1);
+        return kind < 5 ? edges[below(2)] : least + below(kind < 13 ? Math.min(width, 60) : width);
     }
 
     private boolean ask(int method) {
