@@ -773,10 +773,6 @@ public final class GateCounter {
         int edges;
         int latest;
 
-        Clock() {
-            start(10, 0, 0);
-        }
-
         void start(int newStep, int newDrift, int newAge) {
             step = newStep;
             drift = newDrift;
@@ -880,7 +876,6 @@ public final class GateCounter {
         Signal() {
             times = new int[MOST_SEGMENTS];
             periods = new int[MOST_SEGMENTS];
-            clear();
         }
 
         void clear() {

@@ -201,6 +201,11 @@ public final class PromisesTest {
         due(false, () -> x.truncateInput(1));
         due(0, () -> x.undo());
         due(3, () -> x.restoreState());
+        // What was told once in a text may be told in the next one.
+        for (int i = 0; i < 2; i++) {
+            append(x, "clock 10; prescale 2; gate 3; periods 4; signal 5 6;");
+            due(1, () -> x.loadCounter());
+        }
         // A refusal's reasons outlast a load.
         GateCounter y = new GateCounter();
         y.choose();
@@ -233,6 +238,11 @@ public final class PromisesTest {
         dueError("clock 10", 1, 8);
         dueError("clock 10 ", 1, 9);
         dueError("clocks 10;", 1, 0);
+        dueError("flock 10;", 1, 0);
+        dueError("clock 10;date 5;", 1, 9);
+        dueError("clock 10;gatez 5;", 1, 9);
+        dueError("clock 10;agate 5;", 1, 9);
+        dueError("clock 10;signal;", 1, 15);
         dueError(" Clock 10;", 1, 1);
         dueError("clock\t10;", 1, 5);
         dueError("clock -10;", 1, 6);
@@ -547,6 +557,7 @@ public final class PromisesTest {
         due(ILLEGAL, () -> x.edgesIn(-1));
         due(ILLEGAL, () -> x.edgesIn(100001));
         promise = 17;
+        due(0, () -> x.outputsIn(0));
         due(0, () -> x.outputsIn(17));
         due(1, () -> x.outputsIn(18));
         due(1, () -> x.outputsIn(100));
@@ -555,6 +566,7 @@ public final class PromisesTest {
         due(ILLEGAL, () -> x.outputsIn(-1));
         due(ILLEGAL, () -> x.outputsIn(100001));
         promise = 18;
+        due(0, () -> x.clocksIn(0));
         due(0, () -> x.clocksIn(9));
         due(1, () -> x.clocksIn(10));
         // The 20th step is 11 ticks: the 21st clock edge comes at 211.
@@ -564,6 +576,7 @@ public final class PromisesTest {
         due(ILLEGAL, () -> x.clocksIn(100001));
         promise = 19;
         // The 100th clock edge comes at 1000 and 4 carried ticks.
+        due(50, () -> x.driftIn(0));
         due(50, () -> x.driftIn(1003));
         due(51, () -> x.driftIn(1004));
         due(ILLEGAL, () -> x.driftIn(-1));
@@ -618,6 +631,8 @@ public final class PromisesTest {
         due(-1, () -> new GateCounter().timeOfEdge(1));
         // An edge at a segment's time is dropped.
         due(17, () -> counter("clock 10; signal 0 5; signal 10 7;").timeOfEdge(2));
+        due(10, () -> counter("clock 10; signal 0 5; signal 11 7;").timeOfEdge(2));
+        due(18, () -> counter("clock 10; signal 0 5; signal 11 7;").timeOfEdge(3));
         promise = 23;
         due(2000000, () -> x.timeOfClock(1));
         due(-1, () -> x.timeOfClock(2));
@@ -627,6 +642,9 @@ public final class PromisesTest {
         due(29, () -> y.timeOfClock(3));
         // 999 steps: 9990 + floor(-99 * 999 / 1000).
         due(9901, () -> y.timeOfClock(1000));
+        // A sum of 999 carries nothing yet: 37 steps of 27.
+        due(380, () -> counter("clock 10 drift 27;").timeOfClock(38));
+        due(391, () -> counter("clock 10 drift 27;").timeOfClock(39));
         due(ILLEGAL, () -> y.timeOfClock(0));
         due(ILLEGAL, () -> y.timeOfClock(1001));
         promise = 24;
@@ -716,6 +734,7 @@ public final class PromisesTest {
     private static void promises28To31() {
         promise = 28;
         GateCounter x = counter("clock 10 drift 50; signal 4 7; gate 30; periods 3;");
+        due(0, () -> x.trueRate(1));
         due(0, () -> x.trueRate(10));
         due(90909, () -> x.trueRate(11));
         due(100000, () -> x.trueRate(20));
@@ -743,8 +762,12 @@ public final class PromisesTest {
         GateCounter z = counter("clock 10 drift -99; signal 0 1; gate 40;");
         due("396 406 990000", () -> z.byGate(3) + " " + z.byGate(2) + " " + z.byGate(4));
         due(1000000, () -> z.idealValue(false));
+        // With AGE 1 alone a gate of 2000 lasts 1000 * (0 + 1 + .. + 19) / 10000 = 19 ticks longer.
+        GateCounter u = counter("clock 10 age 1; signal 0 1; gate 2000;");
+        due("1000950 1000000", () -> u.byGate(4) + " " + u.idealValue(false));
         promise = 30;
         // REST is 0 and no segment has come: from 0 to the edge at 11.
+        due(1, () -> x.longestSilence(1));
         due(10, () -> x.longestSilence(10));
         due(11, () -> x.longestSilence(20));
         x.runTo(11);
@@ -762,6 +785,9 @@ public final class PromisesTest {
         due(8, () -> x.longestSilence(14));
         due(14, () -> x.longestSilence(1000));
         due(50, () -> new GateCounter().longestSilence(50));
+        // An edge at a segment's time is dropped, one ahead of that is not.
+        due(15, () -> counter("clock 10; signal 0 5; signal 10 0;").longestSilence(20));
+        due(10, () -> counter("clock 10; signal 0 5; signal 11 0;").longestSilence(20));
         due(ILLEGAL, () -> x.longestSilence(0));
         due(ILLEGAL, () -> x.longestSilence(100001));
         promise = 31;
@@ -800,6 +826,11 @@ public final class PromisesTest {
         due(700, () -> x.gateFor(4));
         due(7000, () -> x.gateFor(5));
         due(-1, () -> x.gateFor(6));
+        // From 99981 on at each tick: of the gate's last but one step to 99990 the nine ones to 99989.
+        due("9998 9999 -1", () -> {
+            GateCounter y = counter("clock 10; signal 99980 1;");
+            return y.gateFor(1) + " " + y.gateFor(2) + " " + y.gateFor(3);
+        });
         due(ILLEGAL, () -> x.gateFor(0));
         due(ILLEGAL, () -> x.gateFor(7));
         due(-1, () -> new GateCounter().gateFor(1));
@@ -809,6 +840,8 @@ public final class PromisesTest {
         due(15, () -> x.periodsFor(2));
         due(143, () -> x.periodsFor(3));
         due(-1, () -> x.periodsFor(4));
+        // From 1 to 1000: 100 clock edges.
+        due(999, () -> counter("clock 10; signal 0 1;").periodsFor(3));
         due(ILLEGAL, () -> x.periodsFor(0));
         due(ILLEGAL, () -> x.periodsFor(7));
         due(-1, () -> new GateCounter().periodsFor(1));
@@ -887,7 +920,14 @@ public final class PromisesTest {
         y.set(6, 99);
         due(1, () -> y.gateNear(636943));
         due(2, () -> y.gateNear(636941));
+        // By period, from 99981 to 99990 with that alone, 900000; by gate with 9998 90, and with 9999 190.
+        GateCounter z = counter("clock 10; signal 99980 1; periods 9;");
+        due(9999, () -> z.gateNear(899810));
+        due(-1, () -> z.gateNear(899809));
+        // By period from 67 to 88 150000; by gate 1 74 alone, by gate 2 74, 81 and 88.
         x.set(5, 3);
+        x.runTo(60);
+        due(2, () -> x.gateNear(0));
         x.set(4, 9999);
         x.runTo(1999990);
         due(-1, () -> x.gateNear(2000000));
@@ -939,6 +979,7 @@ public final class PromisesTest {
         due(-99, () -> x.correctionFor(155382));
         due(-99, () -> x.correctionFor(2000000));
         due(98, () -> x.correctionFor(127500));
+        due(-98, () -> x.correctionFor(155210));
         // -1 tells 140140, and 0 tells 140000: 140070 is as near to both.
         due(-1, () -> x.correctionFor(140070));
         due(0, () -> x.correctionFor(140069));
@@ -956,6 +997,15 @@ public final class PromisesTest {
         promise = 39;
         GateCounter x = counter(SEVEN);
         x.gate();
+        promise = 40;
+        due(140000.0, () -> x.meanValue());
+        promise = 41;
+        due(140000, () -> x.median());
+        promise = 43;
+        due(0, () -> x.spread());
+        promise = 44;
+        due(0, () -> x.sharpest());
+        promise = 39;
         x.period();
         x.set(4, 77);
         x.set(5, 88);
@@ -1029,8 +1079,34 @@ public final class PromisesTest {
         due(100000, () -> w.median());
         promise = 44;
         due(3, () -> w.sharpest());
+        // One edge in a gate of 317, 316 and 315 clock edges: values that are 1 apart, the lesser ones first.
+        GateCounter v = counter("clock 10; signal 0 9999; gate 317;");
+        v.runTo(9985);
+        v.gate();
+        v.runTo(19985);
+        v.set(4, 316);
+        v.gate();
+        v.runTo(29985);
+        v.set(4, 315);
+        v.gate();
+        promise = 41;
+        due("315 316 317", () -> v.measurement(0, 4) + " " + v.measurement(1, 4) + " " + v.measurement(2, 4));
+        due(316, () -> v.median());
         promise = 42;
         due(0.0f, () -> new GateCounter().tickShare());
+        GateCounter u = counter("clock 16; gate 3;");
+        u.run(20);
+        due(16.0f, () -> u.tickShare());
+        u.set(1, 99);
+        u.addSegment(1000, 1);
+        u.runTo(32);
+        u.gate();
+        // From 32 on with 99: the eleventh step is 17.
+        due("96 16.0", () -> u.count(0) + " " + u.tickShare());
+        u.runTo(250);
+        due(241.0f / 15.0f, () -> u.tickShare());
+        u.undo();
+        due(16.0f, () -> u.tickShare());
         GateCounter z = counter("clock 10 drift -99;");
         z.run(9);
         due(0.0f, () -> z.tickShare());
@@ -1141,6 +1217,8 @@ public final class PromisesTest {
         due("1 60 81 2 150000 1 3 0 ", () -> measured(x, 1));
         promise = 48;
         // A segment at the closing's time comes with it, ahead of the clock edge.
+        due(2, () -> counter("clock 10; signal 0 5; signal 11 0;").run(100));
+        due(1, () -> counter("clock 10; signal 0 5; signal 10 0;").run(100));
         GateCounter y = counter("clock 10; signal 0 5; signal 20 3; gate 1;");
         due(200000, () -> y.gate());
         due("2 23 3", () -> y.count(5) + " " + y.state(3) + " " + y.count(2));
@@ -1160,6 +1238,11 @@ public final class PromisesTest {
         due(-1, () -> z.gate());
         due(1, () -> z.reason());
         due(before, () -> numbers(z) + states(z));
+        // No clock edge comes up to 2000000: late as well.
+        GateCounter u = new GateCounter();
+        u.runTo(1999991);
+        u.runTo(2000000);
+        due("-1 1", () -> u.gate() + " " + u.reason());
         promise = 49;
         // Silent: by what PERIOD is at the end of all.
         z.addSegment(1999999, 0);
@@ -1193,6 +1276,10 @@ public final class PromisesTest {
         x.set(5, 12);
         due(150000, () -> x.choose());
         due("95 2 2 1", () -> x.count(0) + " " + x.chosenBy() + " " + x.count(8) + " " + x.measurement(0, 0));
+        x.undo();
+        // With 9 from 11 to 74: 20 to 70 are 6, one less than by gate.
+        x.set(5, 9);
+        due("140000 1 60", () -> x.choose() + " " + x.chosenBy() + " " + x.count(0));
         x.undo();
         // With 10 from 11 to 81: 20 to 80 are 7, as many as by gate.
         x.set(5, 10);
