@@ -740,6 +740,7 @@ public final class PromisesTest {
         due(100000, () -> x.trueRate(20));
         // (99997 - 4) / 7 = 14285 edges up to 100000.
         due(142850, () -> x.trueRate(100000));
+        due(1000000, () -> counter("clock 10; signal 0 1;").trueRate(1));
         due(ILLEGAL, () -> x.trueRate(0));
         due(ILLEGAL, () -> x.trueRate(100001));
         promise = 29;
