@@ -1,18 +1,5 @@
-import java.util.concurrent.Callable;
-
 /** For each promise of the document its ordinary inputs, the edges that it names, and wrong inputs; reckoned by hand. */
-public final class PromisesTest {
-    private static final String ILLEGAL = "IllegalArgumentException";
-    private static final String BOUNDS = "IndexOutOfBoundsException";
-    private static final String STATE = "IllegalStateException";
-    private static final String NONE_SUCH = "NoSuchElementException";
-    /** Edges at 11, 18, 25, 32, 39, 46, 53, 60 and on; clock edges at 10, 20 and on. */
-    private static final String SEVEN = "clock 10; signal 4 7; gate 5; periods 3;";
-
-    private static int promise;
-    private static int failures;
-    private static int checks;
-
+public final class PromisesTest extends Checks {
     public static void main(String[] args) {
         setupPromises();
         lookingPromises();
@@ -21,91 +8,7 @@ public final class PromisesTest {
         keptPromises();
         changePromises();
         outputAndSavingPromises();
-        System.out.println("PromisesTest: " + checks + " checks, " + failures + " wrong");
-        System.exit(failures == 0 ? 0 : 1);
-    }
-
-    private static void due(Object want, Callable<Object> call) {
-        String got;
-        try {
-            got = String.valueOf(call.call());
-        } catch (Exception e) {
-            got = e.getClass().getSimpleName();
-        }
-        checks++;
-        if (!got.equals(String.valueOf(want))) {
-            failures++;
-            StackTraceElement here = new Throwable().getStackTrace()[1];
-            System.out.println("promise " + promise + ", line " + here.getLineNumber() + ": answered " + got + ", due is " + want);
-        }
-    }
-
-    private static void append(GateCounter x, String text) {
-        for (int i = 0; i < text.length(); i += 20) {
-            int[] words = new int[5];
-            for (int j = 0; j < 20; j++) {
-                words[j / 4] |= (i + j < text.length() ? text.charAt(i + j) : 0) << (24 - 8 * (j % 4));
-            }
-            x.appendInput(words[0], words[1], words[2], words[3], words[4]);
-        }
-        x.truncateInput(text.length());
-    }
-
-    private static GateCounter counter(String text) {
-        GateCounter x = new GateCounter();
-        append(x, text);
-        if (x.loadCounter() < 0) {
-            throw new IllegalStateException("a test's text is wrong: " + text);
-        }
-        return x;
-    }
-
-    private static void dueError(String text, int code, int offset) {
-        GateCounter x = new GateCounter();
-        append(x, text);
-        due(code == 0, () -> x.loadCounter() >= 0);
-        due(code, () -> x.errorCode());
-        due(offset, () -> x.errorOffset());
-    }
-
-    private static String text(GateCounter x, int length) {
-        StringBuilder text = new StringBuilder();
-        for (int i = 0; i < length; i++) {
-            text.append((char) x.outputByte(i));
-        }
-        return text.toString();
-    }
-
-    private static String settings(GateCounter x) {
-        return text(x, x.printSettings());
-    }
-
-    private static String signal(GateCounter x) {
-        return text(x, x.printSignal());
-    }
-
-    private static String numbers(GateCounter x) {
-        StringBuilder text = new StringBuilder();
-        for (int what = 0; what <= 8; what++) {
-            text.append(x.count(what)).append(' ');
-        }
-        return text.toString();
-    }
-
-    private static String states(GateCounter x) {
-        StringBuilder text = new StringBuilder();
-        for (int what = 0; what <= 5; what++) {
-            text.append(x.state(what)).append(' ');
-        }
-        return text.toString();
-    }
-
-    private static String measured(GateCounter x, int measurement) {
-        StringBuilder text = new StringBuilder();
-        for (int what = 0; what <= 7; what++) {
-            text.append(x.measurement(measurement, what)).append(' ');
-        }
-        return text.toString();
+        end("PromisesTest");
     }
 
     private static void setupPromises() {
@@ -117,7 +20,7 @@ public final class PromisesTest {
     }
 
     private static void promise1() {
-        promise = 1;
+        about = "promise 1";
         GateCounter x = new GateCounter();
         due("10,0,0,1,10,1,0", () -> settings(x));
         due("0 0 0 0 0 0 0 0 0 ", () -> numbers(x));
@@ -131,7 +34,7 @@ public final class PromisesTest {
     }
 
     private static void promise2() {
-        promise = 2;
+        about = "promise 2";
         GateCounter x = new GateCounter();
         for (int i = 1; i <= 24; i++) {
             int length = 20 * i;
@@ -153,7 +56,7 @@ public final class PromisesTest {
     }
 
     private static void promise3() {
-        promise = 3;
+        about = "promise 3";
         GateCounter x = new GateCounter();
         due(true, () -> x.truncateInput(0));
         due(false, () -> x.truncateInput(1));
@@ -169,7 +72,7 @@ public final class PromisesTest {
     }
 
     private static void promise4() {
-        promise = 4;
+        about = "promise 4";
         GateCounter x = counter(SEVEN);
         append(x, "clock 25 drift - 3\nage\n-1;prescale 16;periods 999;gate 9999;signal 0 9999;signal 999999 0;");
         x.choose();
@@ -220,7 +123,7 @@ public final class PromisesTest {
     }
 
     private static void promises5And6() {
-        promise = 5;
+        about = "promise 5";
         due(0, () -> new GateCounter().errorCode());
         due(-1, () -> new GateCounter().errorOffset());
         dueError("clock 10;", 0, -1);
@@ -230,7 +133,7 @@ public final class PromisesTest {
         dueError("clock 000010;", 0, -1);
         dueError("clock 10 drift -0;", 0, -1);
         dueError("clock 10;signal 1 1;signal 2 1;signal 3 1;signal 4 1;signal 5 1;signal 6 1;signal 7 1;signal 8 1;", 0, -1);
-        promise = 6;
+        about = "promise 6";
         dueError("", 1, 0);
         dueError("  \n", 1, 3);
         dueError("clock", 1, 5);
@@ -306,7 +209,7 @@ public final class PromisesTest {
     }
 
     private static void promise7() {
-        promise = 7;
+        about = "promise 7";
         GateCounter x = counter("clock 10; prescale 2; signal 4 7; signal 500 3; gate 5;");
         x.gate();
         x.run(10);
@@ -319,7 +222,7 @@ public final class PromisesTest {
     }
 
     private static void promise8() {
-        promise = 8;
+        about = "promise 8";
         GateCounter x = counter("clock 123 drift 45 age -1; prescale 8; gate 67; periods 89;");
         x.set(6, -12);
         int[] want = {123, 45, -1, 8, 67, 89, -12};
@@ -344,7 +247,7 @@ public final class PromisesTest {
     }
 
     private static void promise9() {
-        promise = 9;
+        about = "promise 9";
         GateCounter x = counter("clock 10 drift -99; prescale 4; signal 5 6; signal 100 0;");
         due("10 0 0 -1 0 5 ", () -> states(x));
         // The step behind the first clock edge is 10 + floor(-99 / 1000) = 9, and REST is 901.
@@ -375,7 +278,7 @@ public final class PromisesTest {
     }
 
     private static void promise10() {
-        promise = 10;
+        about = "promise 10";
         GateCounter x = counter("clock 10; signal 3 4; signal 50 60;");
         due(3, () -> x.segment(0, 0));
         due(4, () -> x.segment(0, 1));
@@ -389,7 +292,7 @@ public final class PromisesTest {
     }
 
     private static void promise11() {
-        promise = 11;
+        about = "promise 11";
         GateCounter x = counter(SEVEN);
         x.gate();
         x.set(6, 10);
@@ -422,7 +325,7 @@ public final class PromisesTest {
     }
 
     private static void promise12() {
-        promise = 12;
+        about = "promise 12";
         GateCounter x = new GateCounter();
         due(0, () -> x.reason());
         x.waitOutput();
@@ -457,7 +360,7 @@ public final class PromisesTest {
     }
 
     private static void promise13() {
-        promise = 13;
+        about = "promise 13";
         GateCounter x = new GateCounter();
         due(0, () -> x.cause());
         x.set(4, 9999);
@@ -489,7 +392,7 @@ public final class PromisesTest {
     }
 
     private static void promise14() {
-        promise = 14;
+        about = "promise 14";
         GateCounter x = counter(SEVEN);
         due(0, () -> x.chosenBy());
         x.choose();
@@ -521,7 +424,7 @@ public final class PromisesTest {
     }
 
     private static void promise15() {
-        promise = 15;
+        about = "promise 15";
         GateCounter x = counter("clock 10; prescale 4; signal 0 3;");
         due(true, () -> x.addsUp());
         x.run(100);
@@ -547,7 +450,7 @@ public final class PromisesTest {
     private static void promises16To21() {
         GateCounter x = counter("clock 10 drift 50 age 1; prescale 2; signal 4 7; signal 30 0; signal 100 1;");
         // Edges at 11, 18, 25, and from 101 on at each tick.
-        promise = 16;
+        about = "promise 16";
         due(0, () -> x.edgesIn(0));
         due(0, () -> x.edgesIn(10));
         due(1, () -> x.edgesIn(11));
@@ -556,7 +459,7 @@ public final class PromisesTest {
         due(99903, () -> x.edgesIn(100000));
         due(ILLEGAL, () -> x.edgesIn(-1));
         due(ILLEGAL, () -> x.edgesIn(100001));
-        promise = 17;
+        about = "promise 17";
         due(0, () -> x.outputsIn(0));
         due(0, () -> x.outputsIn(17));
         due(1, () -> x.outputsIn(18));
@@ -565,7 +468,7 @@ public final class PromisesTest {
         due(2, () -> x.outputsIn(102));
         due(ILLEGAL, () -> x.outputsIn(-1));
         due(ILLEGAL, () -> x.outputsIn(100001));
-        promise = 18;
+        about = "promise 18";
         due(0, () -> x.clocksIn(0));
         due(0, () -> x.clocksIn(9));
         due(1, () -> x.clocksIn(10));
@@ -574,29 +477,29 @@ public final class PromisesTest {
         due(21, () -> x.clocksIn(211));
         due(ILLEGAL, () -> x.clocksIn(-1));
         due(ILLEGAL, () -> x.clocksIn(100001));
-        promise = 19;
+        about = "promise 19";
         // The 100th clock edge comes at 1000 and 4 carried ticks.
         due(50, () -> x.driftIn(0));
         due(50, () -> x.driftIn(1003));
         due(51, () -> x.driftIn(1004));
         due(ILLEGAL, () -> x.driftIn(-1));
         due(ILLEGAL, () -> x.driftIn(100001));
-        promise = 20;
+        about = "promise 20";
         due(18, () -> x.nextOutput());
-        promise = 21;
+        about = "promise 21";
         due(4, () -> x.changesIn());
         due("0 0 0 0 3 0 0 0 0 ", () -> numbers(x));
         x.runTo(20);
         due(10, () -> x.changesIn());
-        promise = 20;
+        about = "promise 20";
         due(101, () -> x.nextOutput());
         x.dropSegment();
         due(-1, () -> x.nextOutput());
         x.runTo(31);
-        promise = 21;
+        about = "promise 21";
         due(-1, () -> x.changesIn());
         due(0, () -> counter("clock 10; signal 0 1;").changesIn());
-        promise = 16;
+        about = "promise 16";
         // Edges of the time of now that are still to come count; forecasts may go beyond 2000000.
         GateCounter y = counter("clock 10; signal 0 10; gate 1; prescale 1;");
         y.gate();
@@ -606,7 +509,7 @@ public final class PromisesTest {
         y.runTo(2000000);
         due("10 10 10 0", () -> y.edgesIn(100) + " " + y.outputsIn(100) + " " + y.clocksIn(100) + " " + y.driftIn(100));
         due(-1, () -> y.nextOutput());
-        promise = 20;
+        about = "promise 20";
         GateCounter z = counter("clock 10; signal 0 10;");
         z.runTo(1999990);
         due(2000000, () -> z.nextOutput());
@@ -615,7 +518,7 @@ public final class PromisesTest {
     }
 
     private static void promises22To25() {
-        promise = 22;
+        about = "promise 22";
         GateCounter x = counter("clock 10; signal 4 7; signal 30 0; signal 100 1;");
         due(11, () -> x.timeOfEdge(1));
         due(25, () -> x.timeOfEdge(3));
@@ -633,7 +536,7 @@ public final class PromisesTest {
         due(17, () -> counter("clock 10; signal 0 5; signal 10 7;").timeOfEdge(2));
         due(10, () -> counter("clock 10; signal 0 5; signal 11 7;").timeOfEdge(2));
         due(18, () -> counter("clock 10; signal 0 5; signal 11 7;").timeOfEdge(3));
-        promise = 23;
+        about = "promise 23";
         due(2000000, () -> x.timeOfClock(1));
         due(-1, () -> x.timeOfClock(2));
         GateCounter y = counter("clock 10 drift -99 age -1;");
@@ -647,7 +550,7 @@ public final class PromisesTest {
         due(391, () -> counter("clock 10 drift 27;").timeOfClock(39));
         due(ILLEGAL, () -> y.timeOfClock(0));
         due(ILLEGAL, () -> y.timeOfClock(1001));
-        promise = 24;
+        about = "promise 24";
         // Steps of 9, 10, 10 and so on: a 9 comes once in ten.
         due(0, () -> y.wobble(1));
         due(1, () -> y.wobble(2));
@@ -662,7 +565,7 @@ public final class PromisesTest {
         due(-1, () -> w.wobble(2));
         w.runTo(1999990);
         due(-1, () -> w.wobble(1));
-        promise = 25;
+        about = "promise 25";
         GateCounter z = counter("clock 10 drift 5 age 1;");
         z.runTo(300);
         due(0, () -> z.clocksTo(5));
@@ -682,7 +585,7 @@ public final class PromisesTest {
     }
 
     private static void promises26And27() {
-        promise = 26;
+        about = "promise 26";
         GateCounter x = counter(SEVEN);
         x.set(6, -50);
         int[] byGate = {0, 10, 60, 7, 147368, 1, 5, -50};
@@ -692,7 +595,7 @@ public final class PromisesTest {
         }
         due(ILLEGAL, () -> x.byGate(-1));
         due(ILLEGAL, () -> x.byGate(8));
-        promise = 27;
+        about = "promise 27";
         int[] byPeriod = {1, 11, 32, 2, 157894, 1, 3, -50};
         for (int what = 0; what <= 7; what++) {
             int which = what;
@@ -703,11 +606,11 @@ public final class PromisesTest {
         due("0 0 0 0 1 0 0 0 1 ", () -> numbers(x));
         due(0, () -> x.reason());
         x.runTo(1999990);
-        promise = 26;
+        about = "promise 26";
         // The gate opens with 2000000 and would close above.
         due(-1, () -> x.byGate(0));
         due(ILLEGAL, () -> x.byGate(8));
-        promise = 27;
+        about = "promise 27";
         due(-1, () -> x.byPeriod(0));
         due(ILLEGAL, () -> x.byPeriod(8));
         due(0, () -> x.reason());
@@ -732,7 +635,7 @@ public final class PromisesTest {
     }
 
     private static void promises28To31() {
-        promise = 28;
+        about = "promise 28";
         GateCounter x = counter("clock 10 drift 50; signal 4 7; gate 30; periods 3;");
         due(0, () -> x.trueRate(1));
         due(0, () -> x.trueRate(10));
@@ -743,7 +646,7 @@ public final class PromisesTest {
         due(1000000, () -> counter("clock 10; signal 0 1;").trueRate(1));
         due(ILLEGAL, () -> x.trueRate(0));
         due(ILLEGAL, () -> x.trueRate(100001));
-        promise = 29;
+        about = "promise 29";
         // Steady: opens at 10, closes at 310: the edges 11 to 305 are 43. As it is, it closes at 311 with the same.
         GateCounter y = counter("clock 10 drift 99 age 1; signal 4 7; gate 50; periods 15;");
         // Steady it closes at 510, with 72 edges up to 508; as it is at 514.
@@ -766,7 +669,7 @@ public final class PromisesTest {
         // With AGE 1 alone a gate of 2000 lasts 1000 * (0 + 1 + .. + 19) / 10000 = 19 ticks longer.
         GateCounter u = counter("clock 10 age 1; signal 0 1; gate 2000;");
         due("1000950 1000000", () -> u.byGate(4) + " " + u.idealValue(false));
-        promise = 30;
+        about = "promise 30";
         // REST is 0 and no segment has come: from 0 to the edge at 11.
         due(1, () -> x.longestSilence(1));
         due(10, () -> x.longestSilence(10));
@@ -791,7 +694,7 @@ public final class PromisesTest {
         due(10, () -> counter("clock 10; signal 0 5; signal 11 0;").longestSilence(20));
         due(ILLEGAL, () -> x.longestSilence(0));
         due(ILLEGAL, () -> x.longestSilence(100001));
-        promise = 31;
+        about = "promise 31";
         GateCounter w = counter(SEVEN);
         due(10000, () -> w.apart());
         w.set(5, 7);
@@ -817,7 +720,7 @@ public final class PromisesTest {
     }
 
     private static void promises32To35() {
-        promise = 32;
+        about = "promise 32";
         GateCounter x = counter(SEVEN);
         due(1, () -> x.gateFor(1));
         // The tenth edge behind 10 is at 74, so it closes with 80.
@@ -835,7 +738,7 @@ public final class PromisesTest {
         due(ILLEGAL, () -> x.gateFor(0));
         due(ILLEGAL, () -> x.gateFor(7));
         due(-1, () -> new GateCounter().gateFor(1));
-        promise = 33;
+        about = "promise 33";
         due(2, () -> x.periodsFor(1));
         // Clock edges from 20 on: the tenth is at 110, so 11 + 15 * 7 = 116 has it.
         due(15, () -> x.periodsFor(2));
@@ -849,56 +752,56 @@ public final class PromisesTest {
         // 1001 clock edges, 2997 to 1001997, are between 2000 and 1002000, and 999 ahead of 1000000.
         due(500, () -> counter("clock 999; signal 0 2000;").periodsFor(4));
         due(500, () -> counter("clock 10; signal 0 20;").periodsFor(4));
-        promise = 34;
+        about = "promise 34";
         due(9999, () -> x.longestGate());
-        promise = 35;
+        about = "promise 35";
         due(999, () -> x.mostPeriods());
         // Nothing that is set matters: only what is still to come.
         x.set(4, 9999);
         x.set(5, 999);
         x.runTo(1999940);
         // Clock edges at 1999950 to 2000000; edges at 1999946, 53, 60, 67, 74, 81, 88 and 95.
-        promise = 34;
+        about = "promise 34";
         due(5, () -> x.longestGate());
-        promise = 35;
+        about = "promise 35";
         due(7, () -> x.mostPeriods());
-        promise = 32;
+        about = "promise 32";
         due("1 -1", () -> x.gateFor(1) + " " + x.gateFor(2));
-        promise = 33;
+        about = "promise 33";
         due("1 -1", () -> x.periodsFor(1) + " " + x.periodsFor(2));
         x.runTo(1999981);
         // Clock edges at 1999990 and 2000000; edges at 1999988 and 95.
-        promise = 34;
+        about = "promise 34";
         due(1, () -> x.longestGate());
-        promise = 35;
+        about = "promise 35";
         due(1, () -> x.mostPeriods());
-        promise = 33;
+        about = "promise 33";
         due("1 -1", () -> x.periodsFor(1) + " " + x.periodsFor(2));
         x.runTo(1999990);
-        promise = 34;
+        about = "promise 34";
         due(-1, () -> x.longestGate());
-        promise = 32;
+        about = "promise 32";
         due(-1, () -> x.gateFor(1));
-        promise = 35;
+        about = "promise 35";
         due(-1, () -> x.mostPeriods());
-        promise = 33;
+        about = "promise 33";
         due(-1, () -> x.periodsFor(1));
         // One output is not enough, and periods without a clock edge between are too short.
         GateCounter z = counter("clock 999; signal 0 1; prescale 16; signal 900 0;");
         due("56 -1", () -> z.outputsIn(1000) + " " + z.mostPeriods());
         due(-1, () -> z.periodsFor(1));
-        promise = 35;
+        about = "promise 35";
         GateCounter w = counter("clock 999; signal 990 9; signal 1017 0;");
         // Edges at 999 and 1008 alone, without a clock edge between.
         due(-1, () -> w.mostPeriods());
-        promise = 33;
+        about = "promise 33";
         due(-1, () -> w.periodsFor(1));
-        promise = 35;
+        about = "promise 35";
         due(1, () -> counter("clock 999; signal 980 10; signal 1010 0;").mostPeriods());
     }
 
     private static void promise36() {
-        promise = 36;
+        about = "promise 36";
         GateCounter x = counter(SEVEN);
         // By period 150000. By gate 1: the edges 11 and 18, so 200000; 2: 11, 18 and 25, so 150000.
         due(2, () -> x.gateNear(0));
@@ -935,7 +838,7 @@ public final class PromisesTest {
     }
 
     private static void promise37() {
-        promise = 37;
+        about = "promise 37";
         // 7 edges within 50 ticks: with 1 140000; with 2 3 * 2; with 4 1 * 4.
         due(1, () -> counter(SEVEN).bestPrescale());
         // All the same: no edges at all.
@@ -972,7 +875,7 @@ public final class PromisesTest {
     }
 
     private static void promise38() {
-        promise = 38;
+        about = "promise 38";
         GateCounter x = counter(SEVEN);
         due(0, () -> x.correctionFor(140000));
         due(99, () -> x.correctionFor(0));
@@ -995,18 +898,18 @@ public final class PromisesTest {
     }
 
     private static void keptPromises() {
-        promise = 39;
+        about = "promise 39";
         GateCounter x = counter(SEVEN);
         x.gate();
-        promise = 40;
+        about = "promise 40";
         due(140000.0, () -> x.meanValue());
-        promise = 41;
+        about = "promise 41";
         due(140000, () -> x.median());
-        promise = 43;
+        about = "promise 43";
         due(0, () -> x.spread());
-        promise = 44;
+        about = "promise 44";
         due(0, () -> x.sharpest());
-        promise = 39;
+        about = "promise 39";
         x.period();
         x.set(4, 77);
         x.set(5, 88);
@@ -1024,16 +927,16 @@ public final class PromisesTest {
         due(BOUNDS, () -> x.valueWith(-1, 0));
         due(ILLEGAL, () -> x.valueWith(0, 100));
         due(ILLEGAL, () -> x.valueWith(0, -100));
-        promise = 40;
+        about = "promise 40";
         due(0.0, () -> new GateCounter().meanValue());
         due(145000.0, () -> x.meanValue());
-        promise = 41;
+        about = "promise 41";
         due(-1, () -> new GateCounter().median());
         due(140000, () -> x.median());
-        promise = 43;
+        about = "promise 43";
         due(0, () -> new GateCounter().spread());
         due(10000, () -> x.spread());
-        promise = 44;
+        about = "promise 44";
         due(-1, () -> new GateCounter().sharpest());
         due(1, () -> x.sharpest());
         // Counts and values behind: by gate of one clock edge, with corrections.
@@ -1044,14 +947,14 @@ public final class PromisesTest {
         y.gate();
         y.set(6, -60);
         y.gate();
-        promise = 41;
+        about = "promise 41";
         due("1000000 952380 1063829", () -> y.measurement(0, 4) + " " + y.measurement(1, 4) + " " + y.measurement(2, 4));
         due(1000000, () -> y.median());
-        promise = 40;
+        about = "promise 40";
         due(3016209.0 / 3.0, () -> y.meanValue());
-        promise = 43;
+        about = "promise 43";
         due(111449, () -> y.spread());
-        promise = 44;
+        about = "promise 44";
         due(2, () -> y.sharpest());
         y.set(5, 1);
         y.addSegment(y.count(0) + 1, 0);
@@ -1059,26 +962,26 @@ public final class PromisesTest {
         // A count of 0 has no digits.
         due("0 0", () -> y.measurement(3, 3) + " " + y.measurement(3, 5));
         due(2, () -> y.sharpest());
-        promise = 41;
+        about = "promise 41";
         due(952380, () -> y.median());
         y.drop(1);
         due(1000000, () -> y.median());
-        promise = 43;
+        about = "promise 43";
         due(1063829, () -> y.spread());
         y.drop(0);
         y.drop(0);
         due(0, () -> y.spread());
         due(0, () -> y.median());
-        promise = 44;
+        about = "promise 44";
         due(0, () -> y.sharpest());
         // Of the same values the median is one as well.
         GateCounter w = counter("clock 10; signal 0 10; gate 1;");
         for (int i = 0; i < 4; i++) {
             w.gate();
         }
-        promise = 41;
+        about = "promise 41";
         due(100000, () -> w.median());
-        promise = 44;
+        about = "promise 44";
         due(3, () -> w.sharpest());
         // One edge in a gate of 317, 316 and 315 clock edges: values that are 1 apart, the lesser ones first.
         GateCounter v = counter("clock 10; signal 0 9999; gate 317;");
@@ -1090,10 +993,10 @@ public final class PromisesTest {
         v.runTo(29985);
         v.set(4, 315);
         v.gate();
-        promise = 41;
+        about = "promise 41";
         due("315 316 317", () -> v.measurement(0, 4) + " " + v.measurement(1, 4) + " " + v.measurement(2, 4));
         due(316, () -> v.median());
-        promise = 42;
+        about = "promise 42";
         due(0.0f, () -> new GateCounter().tickShare());
         GateCounter u = counter("clock 16; gate 3;");
         u.run(20);
@@ -1135,7 +1038,7 @@ public final class PromisesTest {
     }
 
     private static void promises45To47() {
-        promise = 45;
+        about = "promise 45";
         GateCounter x = counter("clock 10; prescale 2; signal 4 7;");
         due(0, () -> x.run(10));
         due(1, () -> x.run(1));
@@ -1146,7 +1049,7 @@ public final class PromisesTest {
         due(ILLEGAL, () -> x.run(100001));
         due(ILLEGAL, () -> x.run(-5));
         due(3, () -> x.count(8));
-        promise = 46;
+        about = "promise 46";
         // Edges from 100013 on to 200008, the 14287th to the 28572nd.
         due(7143, () -> x.runTo(200011));
         due(0, () -> x.runTo(200011));
@@ -1156,13 +1059,13 @@ public final class PromisesTest {
         due(ILLEGAL, () -> x.runTo(-1));
         x.runTo(1999990);
         due("1999990 199999", () -> x.count(0) + " " + x.count(1));
-        promise = 45;
+        about = "promise 45";
         due(STATE, () -> x.run(11));
         due(ILLEGAL, () -> x.run(100001));
         due(6, () -> x.count(8));
         due(1, () -> x.run(10));
         due(STATE, () -> x.run(1));
-        promise = 46;
+        about = "promise 46";
         due(0, () -> x.runTo(2000000));
         due("2000000 200000 285713 142856", () -> x.count(0) + " " + x.count(1) + " " + x.count(2) + " " + x.count(3));
         // What is still to come at the time of now comes with runTo() of no ticks.
@@ -1181,7 +1084,7 @@ public final class PromisesTest {
         due("0 0", () -> z.count(5) + " " + z.state(2));
         due(0, () -> z.runTo(0));
         due("1 3", () -> z.count(5) + " " + z.state(2));
-        promise = 47;
+        about = "promise 47";
         GateCounter w = counter("clock 10; prescale 2; signal 4 7; signal 60 0;");
         due(18, () -> w.waitOutput());
         due("18 1 2 1 2 1 0 0 1 ", () -> numbers(w));
@@ -1206,17 +1109,17 @@ public final class PromisesTest {
     }
 
     private static void promises48And49() {
-        promise = 48;
+        about = "promise 48";
         GateCounter x = counter(SEVEN);
         due(140000, () -> x.gate());
         due("60 6 7 7 1 1 1 1 1 ", () -> numbers(x));
         due("70 0 7 60 0 -1 ", () -> states(x));
         due("0 10 60 7 140000 1 5 0 ", () -> measured(x, 0));
-        promise = 49;
+        about = "promise 49";
         due(150000, () -> x.period());
         due("81 8 11 11 1 1 2 2 2 ", () -> numbers(x));
         due("1 60 81 2 150000 1 3 0 ", () -> measured(x, 1));
-        promise = 48;
+        about = "promise 48";
         // A segment at the closing's time comes with it, ahead of the clock edge.
         due(2, () -> counter("clock 10; signal 0 5; signal 11 0;").run(100));
         due(1, () -> counter("clock 10; signal 0 5; signal 10 0;").run(100));
@@ -1228,14 +1131,14 @@ public final class PromisesTest {
         z.runTo(1999940);
         due(100000, () -> z.gate());
         z.undo();
-        promise = 49;
+        about = "promise 49";
         due(100000, () -> z.period());
         z.undo();
         z.runTo(1999950);
         String before = numbers(z) + states(z);
         due(-1, () -> z.period());
         due(1, () -> z.reason());
-        promise = 48;
+        about = "promise 48";
         due(-1, () -> z.gate());
         due(1, () -> z.reason());
         due(before, () -> numbers(z) + states(z));
@@ -1244,7 +1147,7 @@ public final class PromisesTest {
         u.runTo(1999991);
         u.runTo(2000000);
         due("-1 1", () -> u.gate() + " " + u.reason());
-        promise = 49;
+        about = "promise 49";
         // Silent: by what PERIOD is at the end of all.
         z.addSegment(1999999, 0);
         due("-1 2", () -> z.period() + " " + z.reason());
@@ -1262,13 +1165,13 @@ public final class PromisesTest {
         due(-1, () -> new GateCounter().period());
         // With a clock that ages on the way: 99 steps of -99 and 51 of -98 carry floor(-14.799), one more leaves 103.
         GateCounter a = counter("clock 10 drift -99 age 1; gate 150; signal 0 1;");
-        promise = 48;
+        about = "promise 48";
         due(990000, () -> a.gate());
         due("1495 151 1494 103", () -> a.count(0) + " " + a.count(1) + " " + a.count(2) + " " + a.state(1));
     }
 
     private static void promise50() {
-        promise = 50;
+        about = "promise 50";
         GateCounter x = counter(SEVEN);
         due(140000, () -> x.choose());
         due("60 1 1 0", () -> x.count(0) + " " + x.chosenBy() + " " + x.count(8) + " " + x.measurement(0, 0));
@@ -1299,7 +1202,7 @@ public final class PromisesTest {
     }
 
     private static void promise51() {
-        promise = 51;
+        about = "promise 51";
         GateCounter x = counter("clock 100 drift 50; signal 0 3;");
         // 9999 ticks hold 99 clock edges: 9999000 / 9900 = 1010.
         due(109, () -> x.calibrate(9999));
@@ -1332,7 +1235,7 @@ public final class PromisesTest {
     }
 
     private static void promises52And53() {
-        promise = 52;
+        about = "promise 52";
         GateCounter x = counter("clock 10; prescale 8; signal 0 1;");
         x.runTo(5);
         due("5 0", () -> x.state(4) + " " + x.count(3));
@@ -1351,7 +1254,7 @@ public final class PromisesTest {
             due(ILLEGAL, () -> x.setPrescale(p));
         }
         due(7, () -> x.count(8));
-        promise = 53;
+        about = "promise 53";
         int[] whats = {1, 2, 4, 5, 6};
         int[] least = {-99, -1, 1, 1, -99};
         int[] most = {99, 1, 9999, 999, 99};
@@ -1386,7 +1289,7 @@ public final class PromisesTest {
     }
 
     private static void promises54And55() {
-        promise = 54;
+        about = "promise 54";
         GateCounter x = counter("clock 10; signal 5 3;");
         due(ILLEGAL, () -> x.addSegment(5, 1));
         due(ILLEGAL, () -> x.addSegment(0, 1));
@@ -1411,7 +1314,7 @@ public final class PromisesTest {
         due(STATE, () -> x.addSegment(1999999, 1));
         due(ILLEGAL, () -> x.addSegment(1999999, 10000));
         due(8, () -> x.count(4));
-        promise = 55;
+        about = "promise 55";
         due(7, () -> x.dropSegment());
         due(6, () -> x.dropSegment());
         x.runTo(60);
@@ -1433,7 +1336,7 @@ public final class PromisesTest {
     }
 
     private static void promises56And57() {
-        promise = 56;
+        about = "promise 56";
         GateCounter x = counter(SEVEN);
         x.gate();
         x.period();
@@ -1450,7 +1353,7 @@ public final class PromisesTest {
         due(0, () -> x.drop(0));
         due(BOUNDS, () -> x.drop(0));
         due(6, () -> x.count(8));
-        promise = 57;
+        about = "promise 57";
         due(5, () -> x.undo());
         due(4, () -> x.undo());
         due(3, () -> x.undo());
@@ -1516,7 +1419,7 @@ public final class PromisesTest {
     }
 
     private static void promises58To61() {
-        promise = 58;
+        about = "promise 58";
         GateCounter x = counter(SEVEN);
         x.gate();
         x.set(5, 15);
@@ -1543,13 +1446,13 @@ public final class PromisesTest {
         y.period();
         // From 9999 to 1009899 the clock edges 10989 to 1008990 are 1000: 100e9 / (1000 * 999 * 1000).
         due("p1000:100", () -> text(y, y.printMeasurement(0)));
-        promise = 59;
+        about = "promise 59";
         due("10,0,0,1,10,1,0", () -> settings(new GateCounter()));
         GateCounter z = counter("clock 999 drift -99 age -1; prescale 16; gate 9999; periods 999;");
         z.set(6, -99);
         due(26, () -> z.printSettings());
         due("999,-99,-1,16,9999,999,-99", () -> settings(z));
-        promise = 60;
+        about = "promise 60";
         due("-", () -> signal(z));
         GateCounter w = counter("clock 10; signal 4 7; signal 5 0; signal 999999 9999;");
         due("4/7 5/0 999999/9999", () -> signal(w));
@@ -1558,7 +1461,7 @@ public final class PromisesTest {
         w.runTo(999999);
         due("4/7* 5/0* 999999/9999*", () -> signal(w));
         due(22, () -> w.printSignal());
-        promise = 61;
+        about = "promise 61";
         due(52, () -> w.outputByte(0));
         due(42, () -> w.outputByte(21));
         due(-1, () -> w.outputByte(22));
@@ -1573,7 +1476,7 @@ public final class PromisesTest {
     }
 
     private static void promises62And63() {
-        promise = 62;
+        about = "promise 62";
         GateCounter x = counter(SEVEN);
         due(NONE_SUCH, () -> x.restoreState());
         x.gate();
@@ -1594,7 +1497,7 @@ public final class PromisesTest {
         x.period();
         x.loadCounter();
         append(x, "clock");
-        promise = 63;
+        about = "promise 63";
         due(60, () -> x.restoreState());
         due(all, () -> states(x) + settings(x) + signal(x) + measured(x, 0));
         due("60 6 7 7 1 1 1 1 0 ", () -> numbers(x));
@@ -1611,11 +1514,11 @@ public final class PromisesTest {
         due(60, () -> x.restoreState());
         // A later one takes the place of an earlier one.
         x.run(40);
-        promise = 62;
+        about = "promise 62";
         due(100, () -> x.saveState());
         x.undo();
         due(60, () -> x.count(0));
-        promise = 63;
+        about = "promise 63";
         due(100, () -> x.restoreState());
         due(100, () -> x.count(0));
         // A load puts what is saved away.
