@@ -113,6 +113,10 @@ final class MeasuringBoundaries extends Boundaries {
                 int period = byPeriod[i];
                 due(gate + " " + period, () -> x.byGate(4) + " " + x.byPeriod(4));
             }
+            // 1000000000 / 1001 is 999000.999: 1 less than what 1001 divides.
+            GateCounter y = counter("clock 10; signal 0 1; gate 1;");
+            y.set(6, 1);
+            due(999000, () -> y.byGate(4));
             // A product that no int holds: 6249 * 16 * 1000000000 / 99990000.
             due(999939, () -> counter("clock 10; prescale 16; signal 0 1; gate 9999;").byGate(4));
             // 999 * 16 * 1000000000 / (1599 * 10000).
