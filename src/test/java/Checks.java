@@ -30,7 +30,7 @@ abstract class Checks {
     /** The line of a test that called: the first one outside of what tests share. */
     private static String place() {
         for (StackTraceElement here : new Throwable().getStackTrace()) {
-            if (!here.getClassName().equals("Checks") && !here.getClassName().equals("Boundaries")) {
+            if (!here.getClassName().equals("Checks") && !here.getClassName().equals("Sentences")) {
                 return ", " + here.getFileName() + " line " + here.getLineNumber();
             }
         }

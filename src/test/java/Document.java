@@ -10,13 +10,13 @@ import java.util.List;
 import java.util.Map;
 import java.util.regex.Pattern;
 
-/** The document by sections and sentences, and which of its sentences have a test. */
+/** The document by sections and sentences, and which of its words a test bears. */
 final class Document {
     private static final Path FILE = Path.of("..", "shared", "DOC.md");
-    /** Signs of a boundary case; each sentence with one of them must have a test. */
-    private static final Pattern BOUNDARY = Pattern.compile("Throws|NONE|-1|\\d to \\d|at first|at most|up to|above|within\\b"
-        + "|\\b(if|no|none|only|fewer|less|lesser|least|greater|greatest|longest|longer|late|silent|short|tie|stays?|leaves?|nothing|refused"
-        + "|rounded|without|once|empty|empties|in place of|may)\\b");
+    /** What stands ahead of a sentence and is none: the sign of a list, or the number and the name of a term. */
+    private static final Pattern AHEAD = Pattern.compile("^(- |\\d+\\. [A-Z][a-z ]+\\. )");
+    /** The name of a parameter or of an error, which what it tells stands behind. */
+    private static final Pattern NAME = Pattern.compile("\\w+:");
 
     private final Map<String, List<String>> sentences = new LinkedHashMap<>();
     private final Map<String, List<String>> quoted = new LinkedHashMap<>();
@@ -29,7 +29,7 @@ final class Document {
                 sentences.put(heading, new ArrayList<>());
                 quoted.put(heading, new ArrayList<>());
             } else if (!heading.isEmpty() && !line.startsWith("```") && !line.isBlank()) {
-                for (String sentence : line.strip().split("(?<=[.;:]) ")) {
+                for (String sentence : AHEAD.matcher(line.strip()).replaceFirst("").split("(?<=[.;:]) ")) {
                     sentences.get(heading).add(plain(sentence));
                 }
             }
@@ -58,6 +58,10 @@ final class Document {
         return null;
     }
 
+    List<String> sentencesOf(String heading) {
+        return sentences.getOrDefault(heading, List.of());
+    }
+
     /** Notes that some words of a section are tested; false, if they don't stand there. */
     boolean quote(String heading, String words) {
         quoted.get(heading).add(plain(words));
@@ -68,23 +72,30 @@ final class Document {
         return String.join(" ", sentences.get(heading));
     }
 
-    /** The sentences that show signs of a boundary case, and of which no test bears any words. */
+    /** The sentences of which no test bears some of the words. */
     List<String> withoutTest() {
         List<String> without = new ArrayList<>();
         for (String heading : sentences.keySet()) {
-            if (heading.startsWith("Promise") || heading.equals("Terms")) {
-                BitSet tested = tested(heading);
-                int begin = 0;
-                for (String sentence : sentences.get(heading)) {
-                    int end = begin + sentence.length();
-                    if (tested.get(begin, end).isEmpty() && BOUNDARY.matcher(sentence).find()) {
-                        without.add(heading + " | " + sentence);
-                    }
-                    begin = end + 1;
+            BitSet tested = tested(heading);
+            int begin = 0;
+            for (String sentence : sentences.get(heading)) {
+                String left = untested(sentence, tested.get(begin, begin + sentence.length()));
+                if (!left.isEmpty() && !NAME.matcher(sentence).matches()) {
+                    without.add(heading + " | " + sentence + " | " + left);
                 }
+                begin += sentence.length() + 1;
             }
         }
         return without;
+    }
+
+    private static String untested(String sentence, BitSet tested) {
+        StringBuilder left = new StringBuilder();
+        for (int i = 0; i < sentence.length(); i++) {
+            boolean told = Character.isLetterOrDigit(sentence.charAt(i)) && !tested.get(i);
+            left.append(told ? sentence.charAt(i) : ' ');
+        }
+        return left.toString().strip();
     }
 
     private BitSet tested(String heading) {

@@ -58,11 +58,11 @@ public final class FaceTest {
         check(told.equals(seen), "the methods are\n" + seen + "\nthose of the document are\n" + told);
     }
 
-    private static String withoutParameterNames(String line) {
+    static String withoutParameterNames(String line) {
         return line.replaceAll("(int|boolean) \\w+([,)])", "$1$2").replace(";", "");
     }
 
-    private static String asWritten(Method method) {
+    static String asWritten(Method method) {
         String parameters = Arrays.stream(method.getParameterTypes()).map(Class::getSimpleName).collect(Collectors.joining(", "));
         String thrown = Arrays.stream(method.getExceptionTypes()).map(Class::getSimpleName).collect(Collectors.joining(", "));
         return "public " + method.getReturnType().getSimpleName() + " " + method.getName() + "(" + parameters + ")"

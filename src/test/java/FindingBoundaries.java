@@ -1,5 +1,5 @@
 /** Boundary cases of the promises that forecast measurements and find what settings would be best. */
-final class FindingBoundaries extends Boundaries {
+final class FindingBoundaries extends Sentences {
     private FindingBoundaries() {
     }
 

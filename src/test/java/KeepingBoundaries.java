@@ -1,5 +1,5 @@
 /** Boundary cases of the measurements that are kept, of changes and undoing, of the output and of saving. */
-final class KeepingBoundaries extends Boundaries {
+final class KeepingBoundaries extends Sentences {
     private KeepingBoundaries() {
     }
 
@@ -377,7 +377,8 @@ final class KeepingBoundaries extends Boundaries {
             x.printSettings();
             due("g7:1xxxxx -1", () -> text(x, x.printMeasurement(0)) + " " + x.outputByte(9));
         });
-        holds("of which as many digits are written as the measurement has digits (at least 1, all if it has more), the others as x.", () -> {
+        holds("g (by gate) or p (by period), its count, a colon, and its value, of which as many digits are written as the measurement has digits "
+            + "(at least 1, all if it has more), the others as x.", () -> {
             // No digits; one; two of seven; as many as there are; more than there are.
             due("g0:0", () -> printed("clock 10;", false));
             due("g7:1xxxxx", () -> printed(SEVEN, false));

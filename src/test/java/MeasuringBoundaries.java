@@ -1,5 +1,5 @@
 /** Boundary cases of measurements, refusals, choices and calibrations, and of the promises that make them. */
-final class MeasuringBoundaries extends Boundaries {
+final class MeasuringBoundaries extends Sentences {
     private MeasuringBoundaries() {
     }
 

@@ -1,5 +1,5 @@
 /** Boundary cases of the setup text, and of the promises about it. */
-final class SetupBoundaries extends Boundaries {
+final class SetupBoundaries extends Sentences {
     private SetupBoundaries() {
     }
 
@@ -25,7 +25,7 @@ final class SetupBoundaries extends Boundaries {
     }
 
     private static void constants() {
-        holds("NONE = -1: There is no such thing; refused.", () -> due(-1, () -> GateCounter.NONE));
+        holds("The constants: NONE = -1: There is no such thing; refused.", () -> due(-1, () -> GateCounter.NONE));
         holds("NO_ERROR = 0: No error.", () -> due(0, () -> GateCounter.NO_ERROR));
         holds("SYNTAX = 1: Error code: the text does not follow the form.", () -> due(1, () -> GateCounter.SYNTAX));
         holds("OUT_OF_RANGE = 2: Error code: a number is out of range.", () -> due(2, () -> GateCounter.OUT_OF_RANGE));
@@ -72,7 +72,10 @@ final class SetupBoundaries extends Boundaries {
             dueError("clock 10;signal -1 1;", GateCounter.SYNTAX, 16);
             dueError("clock 10;signal 1 -1;", GateCounter.SYNTAX, 18);
         });
-        holds("each followed by a semicolon", () -> {
+        holds("The text is a sequence of statements, each followed by a semicolon;", () -> {
+            dueLoaded("clock 10;", "10,0,0,1,10,1,0");
+            dueLoaded("clock 11;periods 5;prescale 4;gate 3;", "11,0,0,4,3,5,0");
+            dueLoaded("clock 11;gate 3;prescale 4;signal 1 1;periods 5;signal 2 2;", "11,0,0,4,3,5,0");
             dueError("clock 10", GateCounter.SYNTAX, 8);
             dueError("clock 10;gate 5", GateCounter.SYNTAX, 15);
             dueError("clock 10;gate 5 periods 5;", GateCounter.SYNTAX, 16);
@@ -82,7 +85,11 @@ final class SetupBoundaries extends Boundaries {
     }
 
     private static void ranges() {
-        holds("STEP (10 to 999)", () -> {
+        holds("clock N [ drift S ] [ age S ] STEP (10 to 999)", () -> {
+            dueLoaded("clock 12;", "12,0,0,1,10,1,0");
+            dueLoaded("clock 12 drift -3;", "12,-3,0,1,10,1,0");
+            dueLoaded("clock 12 age -1;", "12,0,-1,1,10,1,0");
+            dueLoaded("clock 12 drift -3 age 1;", "12,-3,1,1,10,1,0");
             dueError("clock 9;", GateCounter.OUT_OF_RANGE, 6);
             dueLoaded("clock 10;", "10,0,0,1,10,1,0");
             dueLoaded("clock 999;", "999,0,0,1,10,1,0");
@@ -116,21 +123,21 @@ final class SetupBoundaries extends Boundaries {
             }
             dueLoaded("clock 10;gate 7;", "10,0,0,1,7,1,0");
         });
-        holds("GATE, 1 to 9999; 10 without it", () -> {
+        holds("gate N GATE, 1 to 9999; 10 without it", () -> {
             dueError("clock 10;gate 0;", GateCounter.OUT_OF_RANGE, 14);
             dueLoaded("clock 10;gate 1;", "10,0,0,1,1,1,0");
             dueLoaded("clock 10;gate 9999;", "10,0,0,1,9999,1,0");
             dueError("clock 10;gate 10000;", GateCounter.OUT_OF_RANGE, 14);
             dueLoaded("clock 10;periods 7;", "10,0,0,1,10,7,0");
         });
-        holds("PERIODS, 1 to 999; 1 without it", () -> {
+        holds("periods N PERIODS, 1 to 999; 1 without it", () -> {
             dueError("clock 10;periods 0;", GateCounter.OUT_OF_RANGE, 17);
             dueLoaded("clock 10;periods 1;", "10,0,0,1,10,1,0");
             dueLoaded("clock 10;periods 999;", "10,0,0,1,10,999,0");
             dueError("clock 10;periods 1000;", GateCounter.OUT_OF_RANGE, 17);
             dueLoaded("clock 10;prescale 2;", "10,0,0,2,10,1,0");
         });
-        holds("a segment: its time (0 to 999999), its PERIOD (0 to 9999)", () -> {
+        holds("signal N N a segment: its time (0 to 999999), its PERIOD (0 to 9999)", () -> {
             due("0/0 999999/9999", () -> signal(counter("clock 10;signal 0 0;signal 999999 9999;")));
             // A greater time has seven digits, which are too many for any number.
             dueError("clock 10;signal 1000000 0;", GateCounter.SYNTAX, 16);
@@ -207,7 +214,11 @@ final class SetupBoundaries extends Boundaries {
             dueError("clock{10;", GateCounter.SYNTAX, 5);
             dueError("clock`10;", GateCounter.SYNTAX, 5);
         });
-        holds("numbers (maximal runs of digits, 1 to 6 of them)", () -> {
+        holds("numbers (maximal runs of digits, 1 to 6 of them), semicolons and minus signs.", () -> {
+            // A semicolon and a minus sign end a word and a number, and each is a token by itself.
+            dueLoaded("clock10drift-5age-1;gate9;periods9;", "10,-5,-1,1,9,9,0");
+            dueError("clock10;;", GateCounter.SYNTAX, 8);
+            dueError("clock10drift--5;", GateCounter.SYNTAX, 13);
             dueLoaded("clock 000010;", "10,0,0,1,10,1,0");
             dueError("clock 0000010;", GateCounter.SYNTAX, 6);
             due("999999/1", () -> signal(counter("clock 10;signal 999999 1;")));
@@ -225,7 +236,7 @@ final class SetupBoundaries extends Boundaries {
                 dueError("clock" + (char) sign + "10;", GateCounter.SYNTAX, 5);
             }
         });
-        holds("parsed from left to right, and the first error met is reported, with an offset in bytes from 0", () -> {
+        holds("A text is parsed from left to right, and the first error met is reported, with an offset in bytes from 0", () -> {
             dueError("clock 9;gate 0;?", GateCounter.OUT_OF_RANGE, 6);
             dueError("clock 10;gate 0;gate 0000000", GateCounter.OUT_OF_RANGE, 14);
             dueError("?clock 9;", GateCounter.SYNTAX, 0);
@@ -242,7 +253,7 @@ final class SetupBoundaries extends Boundaries {
     }
 
     private static void errors() {
-        holds("a token that cannot stand at its place (also the end of an empty text)", () -> {
+        holds("SYNTAX: a token that cannot stand at its place (also the end of an empty text)", () -> {
             dueError("", GateCounter.SYNTAX, 0);
             dueError("10;", GateCounter.SYNTAX, 0);
             dueError("clock clock;", GateCounter.SYNTAX, 6);
@@ -288,7 +299,7 @@ final class SetupBoundaries extends Boundaries {
                 }
             }
         });
-        holds("the end of the text where more is required", () -> {
+        holds("or the end of the text where more is required.", () -> {
             String[] texts = {"clock", "clock 10", "clock 10 drift", "clock 10 drift -", "clock 10 drift 5", "clock 10 age", "clock 10 age -",
                 "clock 10 age 1", "clock 10;prescale", "clock 10;prescale 2", "clock 10;gate", "clock 10;gate 5", "clock 10;periods",
                 "clock 10;periods 5", "clock 10;signal", "clock 10;signal 5", "clock 10;signal 5 5"};
@@ -308,23 +319,23 @@ final class SetupBoundaries extends Boundaries {
             y.appendInput(0x636c6f63, 0x6b203130, 0x3b202020, 0x20202020, 0x2020203f);
             due("-1 1 499", () -> y.loadCounter() + " " + y.errorCode() + " " + y.errorOffset());
         });
-        holds("a number that is out of its range (of S at the number), a P that may not be.", () -> {
+        holds("OUT_OF_RANGE: a number that is out of its range (of S at the number), a P that may not be.", () -> {
             dueError("clock 10 drift -  100;", GateCounter.OUT_OF_RANGE, 18);
             dueError("clock 10 age -\n2;", GateCounter.OUT_OF_RANGE, 15);
             dueError("clock 10;prescale   3", GateCounter.OUT_OF_RANGE, 20);
         });
-        holds("the first word of prescale, gate or periods told again.", () -> {
+        holds("REPEATED: the first word of prescale, gate or periods told again.", () -> {
             dueError("clock 10;prescale 2; prescale", GateCounter.REPEATED, 21);
             dueError("clock 10;gate 5;\ngate 0;", GateCounter.REPEATED, 17);
             dueError("clock 10;periods 5;periods;", GateCounter.REPEATED, 19);
         });
-        holds("the time of a segment that is not greater than that of the one before it.", () -> {
+        holds("ORDER: the time of a segment that is not greater than that of the one before it.", () -> {
             dueError("clock 10;signal 0 1;signal 0 1;", GateCounter.ORDER, 27);
             dueError("clock 10;signal 5 1;signal 5 10000;", GateCounter.ORDER, 27);
             dueError("clock 10;signal 5 1;signal 4", GateCounter.ORDER, 27);
             dueError("clock 10;signal 5 1;signal 9 1;signal 6 1;", GateCounter.ORDER, 38);
         });
-        holds("the first word of a 9th segment.", () -> {
+        holds("TOO_MANY: the first word of a 9th segment.", () -> {
             dueError("clock 10;" + segments(8) + "signal", GateCounter.TOO_MANY, 9 + 8 * 11);
             dueError("clock 10;" + segments(8) + "\n signal 1 1;", GateCounter.TOO_MANY, 9 + 8 * 11 + 2);
         });

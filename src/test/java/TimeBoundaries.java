@@ -1,5 +1,5 @@
 /** Boundary cases of time: the clock, the signal and the prescaler, and the promises that look at them or let time pass. */
-final class TimeBoundaries extends Boundaries {
+final class TimeBoundaries extends Sentences {
     private TimeBoundaries() {
     }
 
@@ -25,7 +25,7 @@ final class TimeBoundaries extends Boundaries {
             due(1, () -> x.count(0));
             due(0, () -> counter("clock 10; signal 0 3;").count(0));
         });
-        holds("those of the time 0 with the first call that lets time pass", () -> {
+        holds("edges (those of the time 0 with the first call that lets time pass", () -> {
             String text = "clock 10; signal 0 3;";
             due("0 0 -1 0", () -> cameAndNext(counter(text)));
             GateCounter x = counter(text);
@@ -62,7 +62,7 @@ final class TimeBoundaries extends Boundaries {
     }
 
     private static void clock() {
-        holds("the first one is at the time STEP.", () -> {
+        holds("Clock edges: the first one is at the time STEP.", () -> {
             int[] steps = {10, 999};
             for (int step : steps) {
                 GateCounter x = counter("clock " + step + " drift 99 age 1;");
@@ -96,6 +96,16 @@ final class TimeBoundaries extends Boundaries {
                     int time = 10 * k + Math.floorDiv(drift * (k - 1), 1000);
                     String want = k - 1 + " " + k;
                     due(want, () -> y.clocksIn(time - 1) + " " + y.clocksIn(time));
+                }
+            }
+            // With one DRIFT behind the first 37 clock edges and another one behind the others: when the 200th one comes.
+            for (int before = -99; before <= 99; before += 9) {
+                for (int drift = -99; drift <= 99; drift++) {
+                    GateCounter z = counter("clock 10 drift " + before + ";");
+                    z.runTo(z.timeOfClock(37));
+                    z.set(1, drift);
+                    int ticks = 2000 + Math.floorDiv(37 * before + 162 * drift, 1000) - z.count(0);
+                    due("162 163", () -> z.clocksIn(ticks - 1) + " " + z.clocksIn(ticks));
                 }
             }
             // A sum of 0 takes nothing away: -50 comes to that with the 20th, and the 21st takes a tick again.
@@ -149,9 +159,10 @@ final class TimeBoundaries extends Boundaries {
             due(0, () -> x.run(100000));
             due("0 -1 0", () -> x.state(2) + " " + x.state(3) + " " + x.count(2));
         });
-        holds("its PERIOD takes the place of the one before, and the next edge is its PERIOD later (none, if that is 0; "
-            + "what was to come before is dropped).", () -> {
+        holds("A segment has a time and a PERIOD; as it comes, its PERIOD takes the place of the one before, and the next edge is its PERIOD later "
+            + "(none, if that is 0; what was to come before is dropped).", () -> {
             GateCounter x = counter("clock 10; signal 0 5; signal 12 0; signal 30 5; signal 34 9999;");
+            due("12 0 34 9999", () -> x.segment(1, 0) + " " + x.segment(1, 1) + " " + x.segment(3, 0) + " " + x.segment(3, 1));
             x.runTo(11);
             due("5 15", () -> x.state(2) + " " + x.state(3));
             x.runTo(12);
@@ -192,8 +203,8 @@ final class TimeBoundaries extends Boundaries {
     private static void looking() {
         section("Promise 7");
         holds("Throws IllegalArgumentException if what is out of range", () -> range(0, 8, (x, what) -> x.count(what)));
-        holds("0 the time, 1 clock edges so far, 2 edges so far, 3 outputs so far, 4 segments, 5 segments that came, 6 measurements so far, "
-            + "7 measurements that are kept, 8 changes that can be undone", () -> {
+        holds("Returns a number of the whole. what: 0 the time, 1 clock edges so far, 2 edges so far, 3 outputs so far, 4 segments, 5 segments that "
+            + "came, 6 measurements so far, 7 measurements that are kept, 8 changes that can be undone Returns the number.", () -> {
             GateCounter x = counter("clock 10; prescale 2; signal 4 7; signal 500 3; gate 5;");
             x.gate();
             x.run(10);
@@ -237,7 +248,8 @@ final class TimeBoundaries extends Boundaries {
         });
         holds("Throws IllegalArgumentException if what is out of range", () -> range(0, 1, (x, what) -> x.segment(1, what)));
         section("Promise 15");
-        holds("edges since the prescaler was set are P times outputs since then, and its count.", () -> {
+        holds("Tells whether the accounts add up: edges since the prescaler was set are P times outputs since then, and its count. Returns whether "
+            + "they do.", () -> {
             GateCounter x = counter("clock 10; prescale 16; signal 0 3;");
             int[] allowed = {1, 2, 4, 8, 16, 16};
             for (int p : allowed) {

@@ -1,7 +1,7 @@
 import java.util.concurrent.Callable;
 
-/** What the tests of the document's boundary cases share: each one bears the words of the document that it is about. */
-abstract class Boundaries extends Checks {
+/** What the tests of the document's sentences share: each one bears the words of the document that it is about. */
+abstract class Sentences extends Checks {
     static final Document DOCUMENT = new Document();
     private static String heading;
 
@@ -29,6 +29,11 @@ abstract class Boundaries extends Checks {
         } catch (RuntimeException e) {
             fail("the test ended with " + e);
         }
+    }
+
+    /** Words of the section that leave something free, or only say what a part is about: no answer could break them. */
+    static void asksNothing(String words) {
+        holds(words, () -> { });
     }
 
     /** All that a change can change, as questions tell it. */
