@@ -66,8 +66,11 @@ final class ChangeSentences extends Sentences {
         });
         section("Promise 40");
         holds("Returns the mean value of the measurements that are kept: their sum divided by their number, both converted to double.", () -> {
-            // 140000, 148514 and 138613.
+            // 140000, 148514 and 138613, as they were made.
             GateCounter x = three();
+            x.set(6, 0);
+            x.setPrescale(2);
+            x.set(5, 9);
             due(427127.0 / 3.0, () -> x.meanValue());
             x.drop(0);
             due(143563.5, () -> x.meanValue());
@@ -212,6 +215,8 @@ final class ChangeSentences extends Sentences {
             due("4/7* 27/3 40/0", () -> signal(x));
             // Edges at 25, 30, 33, 36 and 39.
             due("25 5", () -> x.nextOutput() + " " + x.edgesIn(1000));
+            due("20 2 2 2 3 1 0 0 3 ", () -> numbers(x));
+            due("30 0 7 25 0 27 ", () -> states(x));
         });
         isChange("Promise 54", (x, none) -> x.addSegment(501, 9));
         holds("Returns its number.", () -> {

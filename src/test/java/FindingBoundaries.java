@@ -147,6 +147,8 @@ final class FindingBoundaries extends Sentences {
             due("1 1 1 10 100 1000", () -> gatesFor(counter("clock 100; signal 0 1;")));
             x.set(4, 9999);
             due("1 10 100 1000 -1 -1", () -> gatesFor(x));
+            // The 998 edges ahead of the opening don't count: between the first two clock edges there are 999.
+            due("1 1 1 2 11 101", () -> gatesFor(counter("clock 999; signal 0 1;")));
         });
         holds("Returns 1 to 9999; NONE if there is none that is not refused.", () -> {
             // From 99981 on at each tick: the gate of 9998 closes at 99990, with 9 edges, and that of 9999 at 100000.
@@ -166,6 +168,8 @@ final class FindingBoundaries extends Sentences {
         holds("Finds the least number of PERIODS with which a measurement by period, made now, would have some digits or more.", () -> {
             due("1 10 100 -1 -1 -1", () -> periodsFor(counter("clock 10; signal 0 10;")));
             due("1 1 10 100 -1 -1", () -> periodsFor(counter("clock 10; signal 0 100;")));
+            // The 99 clock edges ahead of the beginning don't count.
+            due("1 3 25 250 -1 -1", () -> periodsFor(at("clock 10; signal 951 40;", 5)));
             // The first period is too short to have a clock edge.
             due("2 15 143 -1 -1 -1", () -> periodsFor(counter(SEVEN)));
         });

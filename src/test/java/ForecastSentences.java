@@ -237,6 +237,12 @@ final class ForecastSentences extends Sentences {
                 due(told, () -> x.byGate(4) + " " + x.byPeriod(4));
             }
         });
+        holds("if DRIFT, AGE, REST and CORRECTION were 0", () -> {
+            // All else is as it is, the count of the prescaler too: 13 of 16 edges, with the 16th one at 48 and the 32nd one at 96.
+            GateCounter x = counter("clock 10; prescale 16; gate 1; signal 0 3;");
+            x.runTo(39);
+            due("1600000 320000", () -> x.idealValue(false) + " " + x.idealValue(true));
+        });
         holds("byPeriod: whether it is made by period, otherwise by gate", () -> {
             // By gate 7 edges of 5 clock edges, by period 3 PERIODs of 2 clock edges.
             GateCounter x = counter(SEVEN);

@@ -386,6 +386,19 @@ final class KeepingBoundaries extends Sentences {
             due("p10:10x", () -> printed("clock 999; signal 0 9999;", true));
             due("p100:100", () -> printed("clock 999; signal 0 9999; periods 10;", true));
             due("p1000:100", () -> printed("clock 999; signal 0 9999; periods 100;", true));
+            // Its value is that as it was made, whatever is set behind.
+            GateCounter x = counter(SEVEN);
+            x.gate();
+            x.setPrescale(16);
+            x.set(6, 99);
+            x.set(4, 1);
+            due("g7:1xxxxx", () -> text(x, x.printMeasurement(0)));
+            GateCounter y = counter("clock 10; signal 0 10; gate 100;");
+            y.gate();
+            y.set(6, 99);
+            due("g100:100xxx", () -> text(y, y.printMeasurement(0)));
+            y.setPrescale(2);
+            due("g100:100xxx", () -> text(y, y.printMeasurement(0)));
         });
         holds("Throws IndexOutOfBoundsException if there is no such measurement", () -> {
             index(2, (x, measurement) -> x.printMeasurement(measurement));
@@ -481,6 +494,7 @@ final class KeepingBoundaries extends Sentences {
             due(220, () -> x.restoreState());
             GateCounter y = lived();
             y.saveState();
+            y.loadCounter();
             append(y, "clock 10");
             y.choose();
             y.printSignal();
@@ -490,6 +504,21 @@ final class KeepingBoundaries extends Sentences {
             due(before.replace(" 2 2 3 |", " 2 2 0 |"), () -> held(y));
             due(true, () -> y.truncateInput(8));
             due("0 1 4/7", () -> y.reason() + " " + y.chosenBy() + " " + text(y, 3));
+            due("1 0", () -> y.errorCode() + " " + y.errorOffset());
+            // All 20 measurements that are kept, and all 8 segments.
+            GateCounter z = counter("clock 10; gate 1; signal 1 1; signal 2 1; signal 3 1; signal 4 1; signal 5 1; signal 6 1; signal 7 1; "
+                + "signal 999999 1;");
+            for (int i = 0; i < 23; i++) {
+                z.gate();
+            }
+            String full = held(z);
+            z.saveState();
+            z.drop(19);
+            z.dropSegment();
+            z.gate();
+            z.gate();
+            z.restoreState();
+            due(full.replace(" 23 20 8 |", " 23 20 0 |"), () -> held(z));
         });
         section("Promise 63");
         holds("Restores the saved state, which stays saved. Nothing can be undone then.", () -> {

@@ -43,6 +43,11 @@ final class MeasuringBoundaries extends Sentences {
             due("1 10 29 1 100000 1 1 0 ", () -> byPeriod("clock 10; signal 0 10; signal 11 18; periods 1;"));
             // Of 16 edges one is an output.
             due("1 16 48 3 1066666 1 2 0 ", () -> byPeriod("clock 10; prescale 16; signal 0 1; periods 2;"));
+            // Ahead of the beginning the prescaler counts on from what it has: 13 edges, with the 16th one at 48.
+            GateCounter y = counter("clock 10; prescale 16; signal 0 3;");
+            y.runTo(40);
+            y.period();
+            due("1 48 96 5 320000 1 1 0 ", () -> measured(y, 0));
             // One that came already is behind.
             GateCounter x = counter("clock 10; signal 0 10; periods 1;");
             x.runTo(10);
@@ -217,6 +222,12 @@ final class MeasuringBoundaries extends Sentences {
             // One that does not end is not short.
             GateCounter z = counter("clock 10; signal 10 2; signal 15 0; periods 3;");
             refused(z, GateCounter.SILENT, () -> z.period());
+            // It begins with the edge of 2000000, which is still to come, and does not end.
+            GateCounter w = counter("clock 10; signal 0 10; gate 1;");
+            w.runTo(1999989);
+            w.gate();
+            due("2000000 2000000", () -> w.count(0) + " " + w.nextOutput());
+            refused(w, GateCounter.LATE, () -> w.period());
         });
     }
 

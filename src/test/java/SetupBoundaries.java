@@ -375,6 +375,12 @@ final class SetupBoundaries extends Sentences {
             due(NONE_SUCH, () -> x.undo());
             due(NONE_SUCH, () -> x.restoreState());
             due(held(counter(text)), () -> held(x));
+            // What the text does not tell is not what it was, but what it is without it.
+            GateCounter y = counter("clock 99 drift 5 age -1;prescale 4;gate 6;periods 7;signal 1 2;signal 3 4;");
+            y.set(6, 8);
+            append(y, "clock 77;");
+            due("0 77,0,0,1,10,1,0", () -> y.loadCounter() + " " + settings(y));
+            due(held(counter("clock 77;")), () -> held(y));
         });
     }
 

@@ -272,6 +272,9 @@ final class TimeBoundaries extends Sentences {
             due("0 0 1 3 4", () -> edges(text, 0) + " " + edges(text, 10) + " " + edges(text, 11) + " " + edges(text, 100) + " " + edges(text, 101));
             due(99903, () -> counter(text).edgesIn(100000));
             due("1 100001", () -> pending().edgesIn(0) + " " + pending().edgesIn(100000));
+            // Also beyond the time 2000000: the 285715th one comes at 2000005, the 300000th one at 2100000.
+            due("0 1 14285 14286", () -> ended().edgesIn(4) + " " + ended().edgesIn(5) + " " + ended().edgesIn(99999) + " "
+                + ended().edgesIn(100000));
         });
         section("Promise 17");
         holds("ticks: 0 to 100000", () -> range(0, 100000, (x, ticks) -> x.outputsIn(ticks)));
@@ -281,6 +284,9 @@ final class TimeBoundaries extends Sentences {
             due("0 0 1 1 2 2 3", () -> x.outputsIn(0) + " " + x.outputsIn(17) + " " + x.outputsIn(18) + " " + x.outputsIn(100) + " "
                 + x.outputsIn(101) + " " + x.outputsIn(102) + " " + x.outputsIn(103));
             due("1 100001", () -> pending().outputsIn(0) + " " + pending().outputsIn(100000));
+            // Also beyond the time 2000000, of two edges one.
+            due("0 1 7142 7143", () -> ended().outputsIn(11) + " " + ended().outputsIn(12) + " " + ended().outputsIn(99999) + " "
+                + ended().outputsIn(100000));
         });
         section("Promise 18");
         holds("ticks: 0 to 100000", () -> range(0, 100000, (x, ticks) -> x.clocksIn(ticks)));
@@ -290,6 +296,8 @@ final class TimeBoundaries extends Sentences {
             due("0 0 1 20 21", () -> x.clocksIn(0) + " " + x.clocksIn(9) + " " + x.clocksIn(10) + " " + x.clocksIn(210) + " " + x.clocksIn(211));
             due("9999 10000", () -> new GateCounter().clocksIn(99999) + " " + new GateCounter().clocksIn(100000));
             due(0, () -> pending().clocksIn(0));
+            due("0 1 9999 10000", () -> ended().clocksIn(9) + " " + ended().clocksIn(10) + " " + ended().clocksIn(99999) + " "
+                + ended().clocksIn(100000));
         });
         section("Promise 19");
         holds("ticks: 0 to 100000", () -> range(0, 100000, (x, ticks) -> x.driftIn(ticks)));
@@ -298,6 +306,10 @@ final class TimeBoundaries extends Sentences {
             GateCounter x = counter(text);
             due("50 50 51", () -> x.driftIn(0) + " " + x.driftIn(1003) + " " + x.driftIn(1004));
             due("98 99", () -> counter("clock 10 age 1;").driftIn(99000) + " " + counter("clock 10 age 1;").driftIn(100000));
+            // Also beyond the time 2000000, up to which 200000 clock edges came.
+            GateCounter y = ended();
+            y.set(2, -1);
+            due("0 -1 -99", () -> y.driftIn(999) + " " + y.driftIn(1000) + " " + y.driftIn(100000));
         });
         section("Promise 28");
         holds("ticks: 1 to 100000", () -> range(1, 100000, (x, ticks) -> x.trueRate(ticks)));
@@ -308,6 +320,7 @@ final class TimeBoundaries extends Sentences {
             // At its greatest: two edges in a tick, of which one is still to come now; more than an int can hold times 1000000.
             due(2000000, () -> pending().trueRate(1));
             due(1000010, () -> pending().trueRate(100000));
+            due("0 200000 142860", () -> ended().trueRate(4) + " " + ended().trueRate(5) + " " + ended().trueRate(100000));
         });
         section("Promise 30");
         holds("ticks: 1 to 100000", () -> range(1, 100000, (x, ticks) -> x.longestSilence(ticks)));
@@ -334,6 +347,9 @@ final class TimeBoundaries extends Sentences {
                 + counter("clock 10; signal 0 5; signal 11 13;").longestSilence(24));
             // With edges that follow one another closely: the PERIOD, though both ends are nearer.
             due(1, () -> pending().longestSilence(5));
+            // Also beyond the time 2000000, with edges at 2000005 and 2000012.
+            due("4 5 6 7 7", () -> ended().longestSilence(4) + " " + ended().longestSilence(5) + " " + ended().longestSilence(11) + " "
+                + ended().longestSilence(12) + " " + ended().longestSilence(100000));
         });
     }
 
@@ -341,6 +357,13 @@ final class TimeBoundaries extends Sentences {
     private static GateCounter pending() {
         GateCounter x = counter("clock 10; signal 19 1; gate 1;");
         x.gate();
+        return x;
+    }
+
+    /** Its time is 2000000; of 285714 edges so far each second one was an output, and 200000 clock edges came. */
+    private static GateCounter ended() {
+        GateCounter x = counter("clock 10; prescale 2; signal 0 7;");
+        x.runTo(2000000);
         return x;
     }
 
@@ -473,6 +496,12 @@ final class TimeBoundaries extends Sentences {
             due("0 -1 -1", () -> counter("clock 10 drift 99 age 1;").clocksTo(99) + " " + counter("clock 10 drift 99 age 1;").clocksTo(98)
                 + " " + counter("clock 10 drift 99 age 1;").clocksTo(-99));
             due("0 19800", () -> counter("clock 10 drift -99 age 1;").clocksTo(-99) + " " + counter("clock 10 drift -99 age 1;").clocksTo(99));
+            // AGE brings it there, though the time of that is above 2000000.
+            due(19800, () -> counter("clock 999 drift -99 age 1;").clocksTo(99));
+            GateCounter y = counter("clock 10; signal 0 1;");
+            y.runTo(2000000);
+            y.set(2, 1);
+            due("100 9900", () -> y.clocksTo(1) + " " + y.clocksTo(99));
         });
     }
 
@@ -583,6 +612,12 @@ final class TimeBoundaries extends Sentences {
             // A P that the count has passed already.
             due(8, () -> x.setPrescale(2));
             due("0 2", () -> x.state(4) + " " + x.setting(3));
+            // What was counted and what is to come stays.
+            x.runTo(17);
+            due("17 1 17 2 1 1 0 0 5 ", () -> numbers(x));
+            due(2, () -> x.setPrescale(16));
+            due("17 1 17 2 1 1 0 0 6 ", () -> numbers(x));
+            due("20 0 1 18 0 -1 ", () -> states(x));
         });
         holds("p: 1, 2, 4, 8 or 16", () -> {
             GateCounter x = new GateCounter();
